@@ -1037,9 +1037,8 @@ public final class TaskSheets {
         }
 
         private boolean readTask(Plan told) {
-            if (!readSign('t')) {
-                return false;
-            }
+            // Its "t" has been seen.
+            position++;
             int group = next() - '0';
             if (group < 0 || group >= GROUPS) {
                 return fail(position);

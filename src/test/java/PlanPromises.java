@@ -13,6 +13,7 @@ final class PlanPromises {
         Due.test("promise 5: move", PlanPromises::move);
         Due.test("promise 5: move, wrong inputs", PlanPromises::moveWrong);
         Due.test("promise 6: removeTask", PlanPromises::removeTask);
+        Due.test("promises 6 and 8: the first one of a full plan goes", PlanPromises::removeOfFull);
         Due.test("promise 7: addArrow", PlanPromises::addArrow);
         Due.test("promise 7: addArrow, wrong inputs", PlanPromises::addArrowWrong);
         Due.test("promise 8: removeArrow", PlanPromises::removeArrow);
@@ -143,10 +144,34 @@ final class PlanPromises {
         Due.index("task 3 is gone", () -> x.removeTask(3));
         Due.index("task -1", () -> x.removeTask(-1));
         Due.is("the last one", x.removeTask(2), 2);
+        Due.is("no arrows", x.value(5), 0);
+        x.addArrow(0, 1);
+        x.addTask(0, 0, 1);
+        x.addArrow(1, 2);
+        Due.is("its arrow", x.removeTask(2), 1);
+        Due.equal("arrow 0 stays", x.arrow(0, 0) + " " + x.arrow(0, 1), "0 1");
+        Due.is("its number", x.removeArrow(0), 0);
         Due.is("without arrows", x.removeTask(0), 0);
         Due.is("the only one", x.removeTask(0), 0);
         Due.index("none is left", () -> x.removeTask(0));
         Due.is("no bands", x.bands(), 0);
+    }
+
+    private static void removeOfFull() {
+        TaskSheets x = new TaskSheets();
+        for (int n = 0; n < 24; n++) {
+            x.addTask(n % 6, n, n + 1);
+        }
+        for (int n = 0; n < 30; n++) {
+            x.addArrow(n % 23 + 1, n < 23 ? 0 : (n + 2) % 23 + 1);
+        }
+        Due.equal("arrow 29", x.arrow(29, 0) + " " + x.arrow(29, 1), "7 9");
+        Due.is("arrows left", x.removeArrow(0), 29);
+        Due.equal("arrow 28 was 29", x.arrow(28, 0) + " " + x.arrow(28, 1), "7 9");
+        x.removeTask(0);
+        Due.equal("task 22 was 23", x.task(22, 0) + " " + x.task(22, 1) + " " + x.task(22, 2), "5 23 24");
+        Due.is("arrows between the others", x.value(5), 7);
+        Due.equal("arrow 6", x.arrow(6, 0) + " " + x.arrow(6, 1), "6 8");
     }
 
     private static void addArrow() {
@@ -158,6 +183,8 @@ final class PlanPromises {
         Due.state("0 to 1 once more", () -> x.addArrow(0, 1));
         x.removeArrow(0);
         Due.is("0 to 1 after it went", x.addArrow(0, 1), 2);
+        x.removeArrow(2);
+        Due.is("0 to 1 after it went as the last one", x.addArrow(0, 1), 2);
     }
 
     private static void addArrowWrong() {

@@ -10,6 +10,7 @@ final class SheetPromises {
         Due.test("promise 11: row, groups that are not kept together", SheetPromises::rowNoKeep);
         Due.test("promise 11: row, wrong inputs", SheetPromises::rowWrong);
         Due.test("promise 12: sheets", SheetPromises::sheets);
+        Due.test("promise 12: sheets, as many as there can be", SheetPromises::mostSheets);
         Due.test("promise 13: sheet", SheetPromises::sheet);
         Due.test("promise 13: sheet, exits and arrows", SheetPromises::sheetArrows);
         Due.test("promise 14: sheetAt", SheetPromises::sheetAt);
@@ -28,7 +29,10 @@ final class SheetPromises {
         Due.is("a band is full", Plans.groups(8, 1, 7).bands(), 1);
         Due.is("a task more", Plans.groups(8, 1, 8).bands(), 2);
         Due.is("3 rows, 24 tasks", Plans.groups(3, 1, 24).bands(), 12);
-        Due.is("3 rows, six groups with an odd count", Plans.groups(3, 0, 5, 5, 5, 3, 3, 3).bands(), 15);
+        TaskSheets x = Plans.groups(3, 0, 5, 5, 5, 3, 3, 3);
+        Due.is("3 rows, six groups with an odd count", x.bands(), 15);
+        Due.equal("the last bands", Plans.rows(x).substring(Plans.rows(x).length() - 52),
+            "[103 15 16][203 17 .][104 18 19][204 20 .][105 21 22][205 23 .]".substring(11));
     }
 
     private static void rowOrder() {
@@ -91,6 +95,32 @@ final class SheetPromises {
         Due.is("days 199 to 258", x.sheets(), 4);
         x.set(1, 5);
         Due.is("strips 39 to 51", x.sheets(), 13);
+    }
+
+    // Six groups of four bars, two in a band, none of which is on a sheet with another one.
+    private static void mostSheets() {
+        TaskSheets x = new TaskSheets();
+        x.set(0, 3);
+        x.set(1, 5);
+        for (int group = 0; group < 6; group++) {
+            x.addTask(group, 4, 60);
+            x.addTask(group, 69, 60);
+            x.addTask(group, 74, 60);
+            x.addTask(group, 139, 60);
+        }
+        Due.is("sheets", x.sheets(), 24 * 13);
+        Due.is("band of the last one", x.sheet(311, 0), 11);
+        Due.is("strip of the last one", x.sheet(311, 1), 39);
+        Due.is("parts on the last one", x.sheet(311, 2), 1);
+        x.addArrow(23, 0);
+        Due.is("exits on the last one", x.sheet(311, 3), 1);
+        x.addArrow(0, 1);
+        x.move(1, 63, 60);
+        Due.is("an arrow on a sheet", x.sheet(12, 4), 1);
+        x.undo();
+        x.set(3, 1);
+        Due.is("the last one by strips", x.sheet(311, 0), 11);
+        Due.is("the last one by bands", x.part(23, 12, 0), 311);
     }
 
     private static void sheet() {
@@ -236,6 +266,17 @@ final class SheetPromises {
         x.removeArrow(1);
         Due.is("exit 1 is another one's", x.arrowOf(1), 2);
         Due.index("exit 2 is gone", () -> x.arrowOf(2));
+        TaskSheets y = new TaskSheets();
+        for (int n = 0; n < 7; n++) {
+            y.addTask(0, 20 * n, 1);
+        }
+        for (int n = 0; n < 30; n++) {
+            y.addArrow(n / 6, n % 6 < n / 6 ? n % 6 : n % 6 + 1);
+        }
+        for (int n = 0; n < 30; n++) {
+            Due.is("exit " + (n + 1), y.arrowOf(n + 1), n);
+        }
+        Due.index("exit 31", () -> y.arrowOf(31));
     }
 
     private static void taskAt() {
@@ -266,5 +307,7 @@ final class SheetPromises {
         x.set(0, 7);
         x.set(1, 5);
         Due.equal("23 of 7 * 5 * 5", x.covered(), 23.0 / 175.0);
+        x.removeTask(1);
+        Due.equal("20 of 7 * 5 * 4", x.covered(), 20.0 / 140.0);
     }
 }

@@ -8,6 +8,7 @@ final class TextPromises {
         Due.test("promise 25: clearText", TextPromises::clearText);
         Due.test("promise 26: parse, right texts", TextPromises::parse);
         Due.test("promise 26: parse, the plan goes, the settings and the text stay", TextPromises::parseReplaces);
+        Due.test("promise 26: parse, nothing of a longer text stays", TextPromises::parseShorter);
         Due.test("promise 26: parse, syntax error positions", TextPromises::parseErrors);
         Due.test("promise 26: parse, numbers out of range", TextPromises::parseNumbers);
         Due.test("promise 26: parse, tasks of arrows", TextPromises::parseArrows);
@@ -75,6 +76,32 @@ final class TextPromises {
         Due.is("empty text", x.parse(), 0);
         Due.is("no tasks", x.value(4), 0);
         Due.is("no bands", x.bands(), 0);
+        TaskSheets y = Plans.withText("t0,0,1;t0,0,1;a0,1;");
+        y.parse();
+        Due.is("an arrow", y.value(5), 1);
+        y.clearText();
+        Plans.write(y, "t0,0,1;t0,0,1;a1,0;");
+        y.parse();
+        Due.is("the arrow of the text before is gone", y.value(5), 1);
+        Due.is("this one stands", y.arrow(0, 0), 1);
+    }
+
+    private static void parseShorter() {
+        TaskSheets x = Plans.withText("t0,0,1;t0,1,9;t0,20,9;t0,50,9;a0,1;a1,2;a1,3;a2,3;");
+        x.parse();
+        Due.is("the longer one: 50 stands with 28 and 9 on 51 days", x.fewestExits(), 51);
+        Due.is("its chain", x.longestChain(), 4);
+        x.clearText();
+        Plans.write(x, "t0,0,1;t0,1,9;a0,1;");
+        x.parse();
+        Due.is("tasks", x.value(4), 2);
+        Due.is("chain", x.longestChain(), 2);
+        Due.is("fewest exits", x.fewestExits(), 5);
+        Due.equal("covered", x.covered(), 10.0 / 160.0);
+        x.addTask(0, 20, 9);
+        Due.is("no delay", x.delay(2), 0);
+        Due.is("chain with a task more", x.longestChain(), 2);
+        Due.is("an arrow of the longer text is free again", x.addArrow(1, 2), 1);
     }
 
     private static void errorAt(String text, int position) {
@@ -150,6 +177,8 @@ final class TextPromises {
         errorAt(two + "a0,;", 17);
         errorAt(two + "a0;1;", 16);
         errorAt(two + "a0", 16);
+        errorAt(two + "a0tx", 16);
+        errorAt(two + "a0,1tx", 18);
         errorAt(two + "a1,011;", 19);
         errorAt(two + "a1,0", 18);
         errorAt(two + "a1,0,", 18);

@@ -65,6 +65,10 @@ final class WhatIfPromises {
         x.set(0, 8);
         Due.is("9, 11 and 20 on one sheet", x.fewestExits(), 21);
         Due.is("the setting stays", x.value(1), 20);
+        x.removeArrow(1);
+        Due.is("a removed arrow does not count", x.fewestExits(), 6);
+        x.removeArrow(0);
+        Due.is("no arrows are left", x.fewestExits(), 5);
     }
 
     private static void delay() {
@@ -82,6 +86,8 @@ final class WhatIfPromises {
         x.move(0, 199, 60);
         x.move(3, 0, 1);
         Due.is("beyond the last first day", x.delay(3), 259);
+        x.removeArrow(2);
+        Due.is("a removed arrow is not late", x.delay(3), 0);
         Due.index("task 4", () -> x.delay(4));
         Due.index("task -1", () -> x.delay(-1));
     }
@@ -106,6 +112,17 @@ final class WhatIfPromises {
         Due.is("longer", x.longestChain(), 5);
         x.move(3, 29, 10);
         Due.is("broken in the middle", x.longestChain(), 3);
+        x.undo();
+        x.removeArrow(5);
+        Due.is("the last arrow goes", x.longestChain(), 4);
+        x.removeTask(5);
+        x.removeTask(4);
+        Due.is("the last tasks go", x.longestChain(), 2);
+        x.removeTask(3);
+        x.removeTask(2);
+        x.removeTask(1);
+        x.removeTask(0);
+        Due.is("no tasks are left", x.longestChain(), 0);
         TaskSheets y = new TaskSheets();
         for (int n = 0; n < 24; n++) {
             y.addTask(0, 8 * (23 - n), 8);
