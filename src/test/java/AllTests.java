@@ -9,6 +9,12 @@ public final class AllTests {
         WhatIfPromises.run();
         TextPromises.run();
         StatePromises.run();
+        PlanEdges.run();
+        SheetEdges.run();
+        WhatIfEdges.run();
+        TextEdges.run();
+        StateEdges.run();
+        RefusedCalls.run();
         ModelRuns.run();
         RulesOfTheLanguage.run();
         if (!Due.close()) {

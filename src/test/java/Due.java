@@ -1,3 +1,4 @@
+import java.util.function.Function;
 import java.util.function.Supplier;
 
 /** Compares answers with what is due, and counts the tests that pass and fail. */
@@ -30,6 +31,14 @@ final class Due {
         }
     }
 
+    /** A test of a sentence of the document: of a promise, or of what stands before the first one (0). */
+    static void sentence(int promise, String quote, Test test) {
+        test((promise == 0 ? "description" : "promise " + promise) + ", '" + quote + "'", () -> {
+            isTrue("the document says so", Document.says(promise, quote));
+            test.run();
+        });
+    }
+
     static void equal(String what, Object got, Object want) {
         if (!want.equals(got)) {
             wrong(what + " answered " + got + ", due is " + want);
@@ -54,6 +63,21 @@ final class Due {
 
     static void state(String what, Supplier<?> call) {
         equal(what, answer(call), "throws.IllegalStateException");
+    }
+
+    /** A refused call: it throws just that, and leaves the object as one is on which it was never called. */
+    static void refused(String what, String exception, Supplier<TaskSheets> made, Function<TaskSheets, ?> call) {
+        TaskSheets x = made.get();
+        equal(what, answer(() -> call.apply(x)), "throws." + exception);
+        equal("what stands behind " + what, Plans.whole(x), Plans.whole(made.get()));
+    }
+
+    /** A question: it leaves the object as one is on which it was never called. */
+    static void question(String what, Supplier<TaskSheets> made, Function<TaskSheets, ?> call) {
+        TaskSheets x = made.get();
+        String first = answer(() -> call.apply(x));
+        equal(what + " once more", answer(() -> call.apply(x)), first);
+        equal("what stands behind " + what, Plans.whole(x), Plans.whole(made.get()));
     }
 
     /** What a call answers, or the name of just the class that it throws. */

@@ -3,7 +3,7 @@ import java.util.Random;
 /** Runs of random calls, from fixed seeds, on a TaskSheets and on the model beside it. */
 final class ModelRuns {
     private static final int RUNS = 60;
-    private static final int CALLS = 500;
+    private static final int CALLS = 512;
 
     private final Random random;
     private final TaskSheets real = new TaskSheets();
@@ -11,6 +11,7 @@ final class ModelRuns {
     private String call = "";
     private String got = "";
     private String want = "";
+    private int calls = 0;
 
     private ModelRuns(long seed) {
         random = new Random(seed);
@@ -20,6 +21,58 @@ final class ModelRuns {
         Due.test("the model, mixed runs", () -> runs(1000, 0));
         Due.test("the model, full plans", () -> runs(2000, 1));
         Due.test("the model, task texts", () -> runs(3000, 2));
+        Due.test("the model, each byte at each place of a text", ModelRuns::texts);
+        Due.test("the model, three groups of each size on low sheets", ModelRuns::layouts);
+    }
+
+    private static void texts() {
+        String[] right = {"t0,0,1;t5,199,60;a0,1;a01,00;", "t1,20,6;t2,3,10;a1,0;t0,19,6;a2,1;", "t0,0,1;".repeat(11) + "a1,10;"};
+        for (String text : right) {
+            for (int i = 0; i <= text.length(); i++) {
+                text(text.substring(0, i));
+                for (char b = 0; b < 128; b++) {
+                    text(text.substring(0, i) + b);
+                    text(text.substring(0, i) + b + text.substring(i));
+                    text(text.substring(0, i) + b + text.substring(Math.min(i + 1, text.length())));
+                }
+            }
+        }
+    }
+
+    private static void text(String text) {
+        TaskSheets real = Plans.withText(text);
+        PlanModel model = new PlanModel();
+        for (int i = 0; i < text.length(); i++) {
+            model.append(text.charAt(i));
+        }
+        int want = model.parse();
+        Due.is("parse of '" + text + "'", real.parse(), want);
+        if (want > 0) {
+            Due.is("digest behind '" + text + "'", real.digest(), model.digest());
+        }
+    }
+
+    private static void layouts() {
+        for (int n = 0; n < 8 * 8 * 8; n++) {
+            int[] counts = {n % 8, n / 8 % 8, n / 64};
+            for (int keep = 0; keep < 2; keep++) {
+                TaskSheets real = Plans.groups(3, keep, counts);
+                PlanModel model = new PlanModel();
+                model.set(0, 3);
+                model.set(2, keep);
+                for (int group = 0; group < 3; group++) {
+                    for (int task = 0; task < counts[group]; task++) {
+                        model.addTask(group, task, 1);
+                    }
+                }
+                for (int rows = 3; rows <= 9; rows++) {
+                    real.set(0, rows);
+                    model.set(0, rows);
+                    String what = "keep " + keep + ", groups of " + counts[0] + ", " + counts[1] + " and " + counts[2];
+                    Due.is(what + " on " + rows + " rows: digest", real.digest(), model.digest());
+                }
+            }
+        }
     }
 
     private static void runs(long seed, int kind) {
@@ -29,21 +82,17 @@ final class ModelRuns {
     }
 
     private void run(String name, int kind) {
-        int calls = 0;
         if (kind == 1) {
-            calls = fill();
+            fill();
         }
-        while (calls < CALLS) {
+        // No step but that of a text makes more than two calls.
+        while (calls + 2 <= CALLS) {
             if (kind == 2 && random.nextInt(12) == 0) {
-                calls += writeText();
+                writeText();
+            } else if (random.nextInt(100) < 40) {
+                change(kind);
             } else {
-                int what = random.nextInt(100);
-                calls++;
-                if (what < 40) {
-                    change(kind);
-                } else {
-                    ask();
-                }
+                ask();
             }
             if (!got.equals(want)) {
                 Due.wrong(name + ", call " + calls + ": " + call + " answered " + got + ", the model " + want);
@@ -53,6 +102,7 @@ final class ModelRuns {
     }
 
     private void both(String text, Object one, Object other) {
+        calls++;
         if (got.equals(want)) {
             call = text;
             got = String.valueOf(one);
@@ -60,7 +110,7 @@ final class ModelRuns {
         }
     }
 
-    private int fill() {
+    private void fill() {
         int groups = 1 + random.nextInt(6);
         for (int n = 0; n < 24; n++) {
             addTask(random.nextInt(groups), random.nextInt(200), 1 + random.nextInt(60));
@@ -68,7 +118,6 @@ final class ModelRuns {
         for (int n = 0; n < 35; n++) {
             addArrow(random.nextInt(24), random.nextInt(24));
         }
-        return 59;
     }
 
     // Mostly in range, at times just outside of it or far away.
@@ -194,19 +243,19 @@ final class ModelRuns {
         }
     }
 
-    private int writeText() {
-        int calls = 1;
+    private void writeText() {
+        String text = spoiled(rightText());
+        if (calls + text.length() + 2 > CALLS) {
+            return;
+        }
         if (random.nextInt(4) != 0) {
             both("clearText()", real.clearText(), model.clearText());
-            calls++;
         }
-        String text = spoiled(rightText());
         for (int i = 0; i < text.length(); i++) {
             int c = text.charAt(i);
             both("append(" + c + ")", Due.answer(() -> real.append(c)), Due.answer(() -> model.append(c)));
         }
         both("parse() of " + text, real.parse(), model.parse());
-        return calls + text.length();
     }
 
     private String rightText() {

@@ -29,6 +29,10 @@ final class PlanModel {
     private State now = new State(List.of(8, 20, 1, 0), List.of(), List.of());
     private final Deque<State> saved = new ArrayDeque<>();
     private final StringBuilder text = new StringBuilder();
+    // What was found for the state that stands now: the model runs take long without it.
+    private State foundFor = null;
+    private List<List<Integer>> foundBands = List.of();
+    private List<Spot> foundSheets = List.of();
 
     private void become(State next) {
         saved.addLast(now);
@@ -144,7 +148,21 @@ final class PlanModel {
     // ---- sheets
 
     private List<List<Integer>> layout() {
-        return layout(now.settings.get(0));
+        find();
+        return foundBands;
+    }
+
+    private List<Spot> printed() {
+        find();
+        return foundSheets;
+    }
+
+    private void find() {
+        if (foundFor != now) {
+            foundBands = layout(now.settings.get(0));
+            foundSheets = printed(foundBands, now.settings.get(1));
+            foundFor = now;
+        }
     }
 
     /** The bands, each the list of its rows that are not free. */
@@ -187,12 +205,7 @@ final class PlanModel {
         throw new AssertionError("a task without a row");
     }
 
-    private List<Spot> printed() {
-        return printed(now.settings.get(0), now.settings.get(1));
-    }
-
-    private List<Spot> printed(int rows, int days) {
-        List<List<Integer>> bands = layout(rows);
+    private List<Spot> printed(List<List<Integer>> bands, int days) {
         Comparator<Spot> byBand = Comparator.comparingInt(Spot::band);
         Comparator<Spot> byStrip = Comparator.comparingInt(Spot::strip);
         return IntStream.range(0, now.tasks.size()).boxed()
@@ -337,7 +350,7 @@ final class PlanModel {
 
     int sheetsWith(int rows, int days) {
         argument(in(rows, RANGES[0]) && in(days, RANGES[1]));
-        return printed(rows, days).size();
+        return printed(layout(rows), days).size();
     }
 
     int fewestExits() {

@@ -48,6 +48,45 @@ final class Plans {
         return text.toString();
     }
 
+    /** All that an object holds, told by its answers; it is undone and emptied by this. */
+    static String whole(TaskSheets x) {
+        StringBuilder text = new StringBuilder().append(x.digest());
+        for (int n = 0; n < 5; n++) {
+            text.append(' ').append(Due.answer(x::undo)).append(' ').append(x.digest());
+        }
+        text.append(' ').append(x.parse()).append(' ').append(x.digest()).append(' ').append(x.clearText());
+        return text.toString();
+    }
+
+    /** Three tasks and two arrows, on sheets of 5 rows and 10 days; a text; four saved states, the oldest dropped. */
+    static TaskSheets small() {
+        TaskSheets x = tasks(0, 3, 12, 4, 15, 4, 0, 16, 9);
+        x.set(0, 5);
+        x.set(1, 10);
+        x.addArrow(0, 1);
+        x.addArrow(2, 0);
+        write(x, "t5,50,5;t2,2,2;a1,0;");
+        return x;
+    }
+
+    /** 24 tasks, 30 arrows and a text of 150 bytes. */
+    static TaskSheets full() {
+        TaskSheets x = new TaskSheets();
+        for (int n = 0; n < 24; n++) {
+            x.addTask(n % 6, 8 * n, 1 + n);
+        }
+        for (int n = 0; n < 30; n++) {
+            x.addArrow(n % 24, (n % 24 + 1 + n / 24) % 24);
+        }
+        write(x, fullText());
+        return x;
+    }
+
+    /** A right text of 150 bytes, with 21 tasks. */
+    static String fullText() {
+        return "t0,0,1;".repeat(20) + "t5,199,60;";
+    }
+
     static TaskSheets withText(String text) {
         TaskSheets x = new TaskSheets();
         write(x, text);

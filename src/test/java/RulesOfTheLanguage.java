@@ -16,7 +16,6 @@ import java.util.stream.Stream;
 /** What can be looked at of ../shared/LANGUAGE.md without reading the program by eye. */
 final class RulesOfTheLanguage {
     private static final Path SOURCE = Path.of("src/main/java/TaskSheets.java");
-    private static final Path DOCUMENT = Path.of("../shared/DOC.md");
 
     private RulesOfTheLanguage() {
     }
@@ -38,7 +37,7 @@ final class RulesOfTheLanguage {
 
     private static void face() {
         Pattern method = Pattern.compile("    public (int|long|double) (\\w+)\\((.*)\\)( throws .*)?;");
-        TreeSet<String> due = read(DOCUMENT).lines().map(method::matcher).filter(m -> m.matches())
+        TreeSet<String> due = Document.whole().lines().map(method::matcher).filter(m -> m.matches())
             .map(m -> m.group(1) + " " + m.group(2) + "(" + m.group(3).replaceAll("int \\w+", "int") + ")"
                 + (m.group(4) == null ? "" : m.group(4)))
             .collect(Collectors.toCollection(TreeSet::new));
