@@ -15,8 +15,13 @@ public final class AllTests {
         TextEdges.run();
         StateEdges.run();
         RefusedCalls.run();
+        PlainSentences.run();
+        Due.test("no sentence of the document is without a test",
+            () -> Due.equal("sentences without a test", Document.unquoted(), java.util.List.of()));
         ModelRuns.run();
         RulesOfTheLanguage.run();
+        CallsOfTheProgram.run();
+        Readme.run();
         if (!Due.close()) {
             System.exit(1);
         }

@@ -33,6 +33,7 @@ final class Due {
 
     /** A test of a sentence of the document: of a promise, or of what stands before the first one (0). */
     static void sentence(int promise, String quote, Test test) {
+        Document.quote(promise, quote);
         test((promise == 0 ? "description" : "promise " + promise) + ", '" + quote + "'", () -> {
             isTrue("the document says so", Document.says(promise, quote));
             test.run();
